@@ -647,11 +647,10 @@ public final class StruckCounts {
 
     /** What becomes of an open fact as the pleadings close: 1 if it is admitted, else 0. */
     private int bySilence(int f) {
-        int sayers = state.sayers(f) & ~state.struck;
-        if (sayers == 0) {
+        int k = state.firstSayer(f);
+        if (k < 0) {
             return 0;
         }
-        int k = Integer.numberOfTrailingZeros(sayers);
         boolean so = has(at(state.saidSo, k), f);
         boolean admitted = leaves(f, so);
         state.become(f, admitted ? ADMITTED : NOT_KNOWN, so);
@@ -1723,6 +1722,15 @@ public final class StruckCounts {
             return set;
         }
 
+        private int firstSayer(int f) {
+            for (int k = 0; k < counts; k++) {
+                if (has(at(said, k), f) && !has(struck, k)) {
+                    return k;
+                }
+            }
+            return NONE;
+        }
+
         /** How 0: as not so, 1: as so, 2: no more. */
         private void tell(int k, int f, int how) {
             int bit = 1 << f;
@@ -1950,15 +1958,12 @@ public final class StruckCounts {
                 } else if (what == OR) {
                     replace(2, top(yes, 1) | top(yes, 0), top(no, 1) & top(no, 0));
                 } else {
-                    several(what - SEVERAL >> 3, what - SEVERAL & 7);
+                    int least = what - SEVERAL >> 3;
+                    int listed = what - SEVERAL & 7;
+                    // It is no, if fewer than least are yes or open: if more than the rest are no.
+                    replace(listed, atLeast(least, yes, listed), atLeast(listed - least + 1, no, listed));
                 }
             }
-        }
-
-        /** It is no, if fewer than least are yes or open: if more than listed - least are no. */
-        private void several(int least, int listed) {
-            long enough = atLeast(least, yes, listed);
-            replace(listed, enough, atLeast(listed - least + 1, no, listed));
         }
 
         private long leafYes(int f) {
@@ -1983,12 +1988,13 @@ public final class StruckCounts {
             if (many > listed) {
                 return 0L;
             }
-            for (int i = 0; i <= many; i++) {
-                putLong(reached, i, i == 0 ? -1L : 0L);
+            for (int i = 0; i < reached.length; i++) {
+                reached[i] = i == 0 ? -1L : 0L;
             }
             for (int i = 0; i < listed; i++) {
-                for (int j = many; j > 0; j--) {
-                    putLong(reached, j, longAt(reached, j) | longAt(reached, j - 1) & top(row, i));
+                long one = top(row, i);
+                for (int j = reached.length - 1; j > 0; j--) {
+                    reached[j] |= reached[j - 1] & one;
                 }
             }
             return longAt(reached, many);

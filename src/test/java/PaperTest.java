@@ -391,6 +391,10 @@ final class PaperTest {
         lacks("a PLEA SURE as it is", lacking("c;says k c;plea k c&!b|c&b;"), -2, -2, -2);
         lacks("a PLEA that what it needs brings", lacking("b|c;plea k b;"), 1, 4, 4);
         lacks("none at all", lacking("a&d;"), -2, -2, -2);
+        lacks("of two PLEAS neither", lacking("b|c|d;plea k c;plea k b;"), 1, 8, 8);
+        lacks("of two PLEAS the second", lacking("b|c;plea k a;plea k b;"), 1, 4, 4);
+        lacks("all eight", Check.suited("fact a;fact b;fact c;fact d;fact e;fact f;fact g;fact h;"
+                + "count k worth 1 arose 1 needs a&b&c&d&e&f&g&h;"), 8, 255, 255);
         lacks("two of three", lacking("2 of(b,c,d);"), 2, 6, 6);
         lacks("two of three, one said", lacking("2 of(b,c,d);says k c;"), 1, 2, 2);
         lacks("two of three, one said not so", lacking("2 of(b,c,d);says k !c;"), 2, 10, 10);

@@ -33,6 +33,8 @@ final class TrialTest {
         test.promise40Faults();
         test.promise41();
         test.promise42();
+        test.pleas();
+        test.most();
         test.check.close("TrialTest");
     }
 
@@ -59,6 +61,7 @@ final class TrialTest {
             due("issues(" + k + ")", x.issues(k), NONE);
         }
         due("no WORLD alike but for a", needing("fact a;fact b;never a&!b;never b&!a;", "a").issues(0), 0);
+        due("WON where nothing is so", needing("fact a;fact b;fact c;", "!a&!c").issues(0), 5);
         due("a FACT that nothing turns on", needing("fact a;fact b;", "a&(b|!b)").issues(0), 1);
         due("all eight", needing("fact a;fact b;fact c;fact d;fact e;fact f;fact g;fact h;",
                 "a&b&c&d&e&f&g&h").issues(0), 255);
@@ -186,6 +189,9 @@ final class TrialTest {
         due("a KNOWN: award(1)", x.award(1), 100);
         x.say(0, 0, 2);
         due("p does not STAND: award(1)", x.award(1), 70);
+        x = Check.suited("fact a;fact b;count p worth 9 arose 1 needs a&!b;count q worth 9 arose 1 needs b&!a;"
+                + "says p a;says p !b;says q b;says q !a;");
+        due("the first of two WORLDS with as much", x.award(2), 1);
     }
 
     private void promise30Injuries() {
@@ -332,6 +338,8 @@ final class TrialTest {
         proofs(x, 0, false, new int[0][]);
         x = needing(eight, "a&b&c&d&!e&!f&!g&!h");
         proofs(x, 0, true, new int[][] {{255, 15}});
+        x = needing(eight, "a&b&c&d&e&f&g&h");
+        proofs(x, 0, true, new int[][] {{255, 255}});
     }
 
     private void duel(StruckCounts x, int k, int first, int wins, int fact, int so) {
@@ -438,6 +446,9 @@ final class TrialTest {
         x = Check.suited("fact a;count p worth 1 arose 1 needs a;count q worth 1 arose 1 needs !a;"
                 + "says p a;says q !a;");
         due("the least bits", x.elect(1), 1);
+        x.strike(0);
+        due("WON where nothing is so: elect(0)", x.elect(0), 1);
+        due("WON where nothing is so: elect(1)", x.elect(1), 2);
     }
 
     private void asked(String what, StruckCounts x, int answer, int upper, int lower) {
@@ -538,5 +549,60 @@ final class TrialTest {
         for (int what = 0; what < 10; what++) {
             due("count(" + what + ") then", x.count(what), then[what]);
         }
+    }
+
+    /** Each PLEA bars, whichever it is, and only its own COUNT. */
+    private void pleas() {
+        StruckCounts x = Check.suited("fact a;fact b;fact c;fact d;count k worth 1 arose 1 needs a;"
+                + "count l worth 1 arose 1 needs a;plea k b;plea l c;plea k d;says k a;says l a;");
+        proofs(x, 0, true, new int[][] {{11, 1}});
+        proofs(x, 0, false, new int[][] {{1, 0}, {2, 2}, {8, 8}});
+        proofs(x, 1, true, new int[][] {{5, 1}});
+        proofs(x, 1, false, new int[][] {{1, 0}, {4, 4}});
+        chance("two PLEAS", x, 0, 1, 8);
+        chance("one PLEA", x, 1, 1, 4);
+    }
+
+    /** As much as there can be: 8 FACTS, 5 COUNTS with 4 ELEMENTS, 6 PLEAS, 8 COUNTS in all. */
+    private void most() {
+        String n = " worth 9 arose 1 needs a needs b needs c needs ";
+        StruckCounts x = check.right(24, "fact a;fact b;fact c;fact d;fact e;fact f;fact g;fact h;"
+                + "count k" + n + "d;count l" + n + "e;count m" + n + "f;count n" + n + "g;count o" + n + "h;"
+                + "plea k e;plea l f;plea m g;plea n h;plea o d;plea o !f;"
+                + "never a&!b;never b&!a;never d&h;never e&!c;never f&!c;");
+        int[][] won = {{0x0F, 0x10}, {0x17, 0x20}, {0x27, 0x40}, {0x47, 0x80}, {0xA7, 0x08}};
+        for (int k = 0; k < 5; k++) {
+            due("ELEMENTS of " + k, x.of(k, 5), 4);
+            due("PLEAS of " + k, x.of(k, 6), k == 4 ? 2 : 1);
+            for (int world = 0; world < 256; world++) {
+                boolean one = (world & 3) % 3 == 0 && (world & 0x88) != 0x88
+                        && ((world & 0x30) == 0 || (world & 4) != 0);
+                if (one && world % 7 == k) {
+                    boolean is = (world & won[k][0]) == won[k][0] && (world & won[k][1]) == 0;
+                    wonIn(x, k, world, is);
+                }
+            }
+        }
+        for (int k = 5; k < 8; k++) {
+            due("one more", x.add(k - 2, 1, 1), k);
+            due("it has ELEMENTS", x.element(k, 3, 2), 2);
+            due("and a PLEA", x.bar(k, 0, 2), 2);
+            due("its INJURY", x.of(k, 10), k < 7 ? k - 2 : 3);
+        }
+        due("together, k and n", x.together(9), 1);
+        due("together, l and o", x.together(18), 0);
+        due("together, the added ones and o", x.together(0xF0), 0);
+        due("together, all like n", x.together(0xA8), 1);
+    }
+
+    /** Whether a COUNT is WON in a WORLD, by way of all that is ADMITTED. */
+    private void wonIn(StruckCounts x, int k, int world, boolean won) {
+        x.keep(0);
+        for (int f = 0; f < 8; f++) {
+            x.answer(f, world >> f & 1);
+        }
+        due("WORLDS left of " + world, x.worlds(1), 1);
+        due("COUNT " + k + " WON in " + world, x.judged(k), won ? 1 : 0);
+        x.again(0);
     }
 }
