@@ -418,9 +418,9 @@ public final class StruckCounts {
         growTrial(k);
         tree.countTrials();
         if (what == 0) {
-            return tree.valueOf(0, 0);
+            return tree.value();
         }
-        return tree.valueOf(0, 0) == 0 ? -2 : tree.firstTrial();
+        return tree.value() == 0 ? -2 : tree.firstTrial();
     }
 
     public int chance(int k, int what) {
@@ -511,7 +511,7 @@ public final class StruckCounts {
         }
         growTrial(k);
         tree.playOut(first);
-        return tree.valueOf(0, 0);
+        return tree.value();
     }
 
     public int turn(int k, int first, int what) {
@@ -2036,10 +2036,6 @@ public final class StruckCounts {
             }
         }
 
-        private static boolean isPart(int set, int of) {
-            return (set & ~of) == 0;
-        }
-
         private int node(int facts, int so) {
             return at(threes, facts) + at(threes, so);
         }
@@ -2048,8 +2044,9 @@ public final class StruckCounts {
             return at(marks, node(facts, so));
         }
 
-        private int valueOf(int facts, int so) {
-            return at(values, node(facts, so));
+        /** Of the node where nothing is told. */
+        private int value() {
+            return at(values, 0);
         }
 
         private void setLeaf(int world, int mark) {
@@ -2060,54 +2057,52 @@ public final class StruckCounts {
         private void grow(int freeFacts, int fixedSo) {
             free = freeFacts;
             for (int facts = free; facts >= 0; facts--) {
-                for (int so = facts; so >= 0 && isPart(facts, free); so--) {
-                    if (isPart(so, facts)) {
-                        put(marks, node(facts, so), markFrom(facts, so, fixedSo));
+                for (int so = facts; so >= 0 && (facts & ~free) == 0; so--) {
+                    if ((so & ~facts) == 0) {
+                        int node = node(facts, so);
+                        int untold = free & ~facts;
+                        put(marks, node, untold == 0 ? at(leaves, so | fixedSo) : markFrom(node, untold));
                     }
                 }
             }
         }
 
-        private int markFrom(int facts, int so, int fixedSo) {
-            int untold = free & ~facts;
-            if (untold == 0) {
-                return at(leaves, so | fixedSo);
-            }
-            int bit = untold & -untold;
-            return markOf(facts | bit, so) | markOf(facts | bit, so | bit);
+        private int markFrom(int node, int untold) {
+            int three = at(threes, untold & -untold);
+            return at(marks, node + three) | at(marks, node + 2 * three);
         }
 
+        /** Values: how many trials it takes from there on. */
         private void countTrials() {
             for (int facts = free; facts >= 0; facts--) {
-                for (int so = facts; so >= 0 && isPart(facts, free); so--) {
-                    if (isPart(so, facts)) {
-                        put(values, node(facts, so), fewestTrials(facts, so));
+                for (int so = facts; so >= 0 && (facts & ~free) == 0; so--) {
+                    if ((so & ~facts) == 0) {
+                        int node = node(facts, so);
+                        put(values, node, at(marks, node) == MIXED ? fewestTrials(facts, node) : 0);
                     }
                 }
             }
         }
 
-        private int fewestTrials(int facts, int so) {
-            if (markOf(facts, so) != MIXED) {
-                return 0;
-            }
+        private int fewestTrials(int facts, int node) {
             int fewest = MOST_FACTS;
             for (int f = 0; f < MOST_FACTS; f++) {
                 if (has(free & ~facts, f)) {
-                    fewest = Math.min(fewest, trialsBy(facts, so, 1 << f));
+                    fewest = Math.min(fewest, trialsBy(f, node));
                 }
             }
             return fewest;
         }
 
         /** Where no world is left, the value is 0, which never is the worse one. */
-        private int trialsBy(int facts, int so, int bit) {
-            return 1 + Math.max(valueOf(facts | bit, so), valueOf(facts | bit, so | bit));
+        private int trialsBy(int f, int node) {
+            int three = at(threes, 1 << f);
+            return 1 + Math.max(at(values, node + three), at(values, node + 2 * three));
         }
 
         private int firstTrial() {
             for (int f = 0; f < MOST_FACTS; f++) {
-                if (has(free, f) && trialsBy(0, 0, 1 << f) == valueOf(0, 0)) {
+                if (has(free, f) && trialsBy(f, 0) == value()) {
                     return f;
                 }
             }
@@ -2118,31 +2113,32 @@ public final class StruckCounts {
         private void playOut(int first) {
             for (int facts = free; facts >= 0; facts--) {
                 int mover = first + Integer.bitCount(facts) & 1;
-                for (int so = facts; so >= 0 && isPart(facts, free); so--) {
-                    if (isPart(so, facts)) {
-                        put(values, node(facts, so), winner(facts, so, mover));
+                for (int so = facts; so >= 0 && (facts & ~free) == 0; so--) {
+                    if ((so & ~facts) == 0) {
+                        int node = node(facts, so);
+                        put(values, node, winner(facts, node, mover));
                     }
                 }
             }
         }
 
-        private int winner(int facts, int so, int mover) {
+        private int winner(int facts, int node, int mover) {
             if (facts == free) {
-                return markOf(facts, so) == ALL_WON ? 1 : 0;
+                return at(marks, node) == ALL_WON ? 1 : 0;
             }
             int wish = 1 - mover;
-            return bestTurn(facts, so, wish) >= 0 ? wish : 1 - wish;
+            return bestTurn(facts, node, wish) >= 0 ? wish : 1 - wish;
         }
 
         /** The least fact and way that lead to a wished value, as twice the fact, one more if so. */
-        private int bestTurn(int facts, int so, int wish) {
+        private int bestTurn(int facts, int node, int wish) {
             for (int f = 0; f < MOST_FACTS; f++) {
                 if (has(free & ~facts, f)) {
-                    int bit = 1 << f;
-                    if (leadsTo(facts | bit, so, wish)) {
+                    int three = at(threes, 1 << f);
+                    if (leadsTo(node + three, wish)) {
                         return 2 * f;
                     }
-                    if (leadsTo(facts | bit, so | bit, wish)) {
+                    if (leadsTo(node + 2 * three, wish)) {
                         return 2 * f + 1;
                     }
                 }
@@ -2150,8 +2146,8 @@ public final class StruckCounts {
             return NONE;
         }
 
-        private boolean leadsTo(int facts, int so, int wish) {
-            return markOf(facts, so) != 0 && valueOf(facts, so) == wish;
+        private boolean leadsTo(int node, int wish) {
+            return at(marks, node) != 0 && at(values, node) == wish;
         }
 
         private int winningTurn(int first) {
@@ -2160,12 +2156,13 @@ public final class StruckCounts {
 
         /** Whether each leaf has this mark, but no longer with any one literal left out. */
         private boolean isProof(int facts, int so, int want) {
-            if (markOf(facts, so) != want) {
+            int node = node(facts, so);
+            if (at(marks, node) != want) {
                 return false;
             }
             for (int f = 0; f < MOST_FACTS; f++) {
-                int rest = facts & ~(1 << f);
-                if (rest != facts && markOf(rest, so & rest) == want) {
+                int digit = has(so, f) ? 2 : 1;
+                if (has(facts, f) && at(marks, node - digit * at(threes, 1 << f)) == want) {
                     return false;
                 }
             }

@@ -127,7 +127,7 @@ final class ModelTest {
                 same("withdraw(" + f + ")", x.withdraw(f), y.withdraw(f));
                 break;
             case 3:
-                if (below(3) == 0) {
+                if (below(2) == 0) {
                     same("close()", x.close(), y.close());
                 }
                 break;
@@ -180,11 +180,11 @@ final class ModelTest {
         int m = some(2);
         boolean won = below(2) == 0;
         switch (below(24)) {
-            case 0:
-                same("fact(" + f + ", " + some(4), x.fact(f, n), y.fact(f, n));
+            case 0: {
                 int how = some(4);
                 same("fact(" + f + ", " + how + ")", x.fact(f, how), y.fact(f, how));
                 break;
+            }
             case 1:
             case 2: {
                 int what = some(11);
