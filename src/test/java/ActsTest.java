@@ -345,11 +345,11 @@ final class ActsTest {
 
     /** Each kind of act, undone. */
     private void promise18Each() {
-        StruckCounts x = Check.suited(SUIT);
-        x.answer(0, 1);
-        x.keep(0);
-        String ahead = picture(x);
         for (int act = 0; act < 9; act++) {
+            StruckCounts x = Check.suited(SUIT);
+            x.answer(0, 1);
+            x.keep(0);
+            String ahead = picture(x);
             switch (act) {
                 case 0 -> x.answer(2, 2);
                 case 1 -> x.withdraw(0);
@@ -365,8 +365,10 @@ final class ActsTest {
             due("act " + act + " undone, as many", x.undo(), 1);
             due("act " + act + " undone, as ahead", picture(x).equals(ahead), true);
         }
+        StruckCounts x = Check.suited(SUIT);
+        x.answer(0, 1);
         x.close();
-        ahead = picture(x);
+        String ahead = picture(x);
         x.find(3, true);
         due("find() does something", picture(x).equals(ahead), false);
         due("find() undone, as many", x.undo(), 2);
@@ -397,12 +399,12 @@ final class ActsTest {
 
     private static String picture(StruckCounts x) {
         StringBuilder s = new StringBuilder();
-        for (int f = 0; f < 8; f++) {
+        for (int f = 0; f < 4; f++) {
             for (int what = 0; what < 4; what++) {
                 s.append(x.fact(f, what)).append(' ');
             }
         }
-        for (int k = 0; k < 8; k++) {
+        for (int k = 0; k < 4; k++) {
             for (int what = 0; what < 11; what++) {
                 s.append(x.of(k, what)).append(' ');
             }

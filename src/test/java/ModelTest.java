@@ -54,7 +54,7 @@ final class ModelTest {
         calls = 0;
         for (int i = below(20) > 0 ? 0 : 20; i < 20; i++) {
             tell(suits.suit(), true);
-            i = y.count(0) > 0 ? 20 : i;
+            i = y.count(0) > 0 || calls >= CALLS - 140 ? 20 : i;
         }
         while (calls < CALLS - 140 && check.wrong() == 0) {
             int what = below(60);

@@ -566,10 +566,11 @@ final class TrialTest {
     /** As much as there can be: 8 FACTS, 5 COUNTS with 4 ELEMENTS, 6 PLEAS, 8 COUNTS in all. */
     private void most() {
         String n = " worth 9 arose 1 needs a needs b needs c needs ";
-        StruckCounts x = check.right(24, "fact a;fact b;fact c;fact d;fact e;fact f;fact g;fact h;"
+        String suit = "fact a;fact b;fact c;fact d;fact e;fact f;fact g;fact h;"
                 + "count k" + n + "d;count l" + n + "e;count m" + n + "f;count n" + n + "g;count o" + n + "h;"
                 + "plea k e;plea l f;plea m g;plea n h;plea o d;plea o !f;"
-                + "never a&!b;never b&!a;never d&h;never e&!c;never f&!c;");
+                + "never a&!b;never b&!a;never d&h;never e&!c;never f&!c;";
+        StruckCounts x = check.right(24, suit);
         int[][] won = {{0x0F, 0x10}, {0x17, 0x20}, {0x27, 0x40}, {0x47, 0x80}, {0xA7, 0x08}};
         for (int k = 0; k < 5; k++) {
             due("ELEMENTS of " + k, x.of(k, 5), 4);
@@ -579,7 +580,7 @@ final class TrialTest {
                         && ((world & 0x30) == 0 || (world & 4) != 0);
                 if (one && world % 7 == k) {
                     boolean is = (world & won[k][0]) == won[k][0] && (world & won[k][1]) == 0;
-                    wonIn(x, k, world, is);
+                    wonIn(Check.suited(suit), k, world, is);
                 }
             }
         }
@@ -597,12 +598,10 @@ final class TrialTest {
 
     /** Whether a COUNT is WON in a WORLD, by way of all that is ADMITTED. */
     private void wonIn(StruckCounts x, int k, int world, boolean won) {
-        x.keep(0);
         for (int f = 0; f < 8; f++) {
             x.answer(f, world >> f & 1);
         }
         due("WORLDS left of " + world, x.worlds(1), 1);
         due("COUNT " + k + " WON in " + world, x.judged(k), won ? 1 : 0);
-        x.again(0);
     }
 }
