@@ -59,15 +59,17 @@ abstract class Bounds {
         return "count " + name + " worth 1 arose 1 needs " + needs + ";";
     }
 
-    /** All that acts make, of all FACTS and COUNTS that there can be, and what hangs on it. */
+    /** All that a SUIT and acts make, with one FACT and one COUNT more than there are. */
     static String picture(StruckCounts x) {
         StringBuilder s = new StringBuilder();
-        for (int f = 0; f < 8; f++) {
+        int facts = x.count(1);
+        int counts = x.count(2);
+        for (int f = 0; f <= facts; f++) {
             for (int what = 0; what < 4; what++) {
                 s.append(x.fact(f, what)).append(' ');
             }
         }
-        for (int k = 0; k < 8; k++) {
+        for (int k = 0; k <= counts; k++) {
             for (int what = 0; what < 11; what++) {
                 s.append(x.of(k, what)).append(' ');
             }
@@ -75,7 +77,6 @@ abstract class Bounds {
         for (int what = 0; what < 10; what++) {
             s.append(x.count(what)).append(' ');
         }
-        s.append(x.worlds(1)).append(' ').append(x.asked(0)).append(' ').append(x.asked(1));
-        return s.append(' ').append(x.fault(0)).append(' ').append(x.fault(1)).toString();
+        return s.append(x.worlds(1)).append(' ').append(x.asked(0)).append(' ').append(x.asked(1)).toString();
     }
 }

@@ -133,7 +133,7 @@ final class BoundsOfActsTest extends Bounds {
             + "is as it was ahead of them then.")
     void asItWasAheadOfThem() {
         StruckCounts x = suited();
-        Call[] acts = {y -> y.answer(3, 2), y -> y.answer(2, 0), y -> y.withdraw(2), y -> y.say(1, 3, 1),
+        Call[] acts = {y -> y.answer(3, 2), y -> y.answer(2, 1), y -> y.withdraw(2), y -> y.say(1, 3, 1),
             y -> y.say(1, 3, 2), y -> y.days(9), y -> y.add(1, 9, 9), y -> y.say(2, 0, 0), y -> y.strike(2),
             y -> y.again(0) ? 1 : 0, y -> y.close(), y -> y.find(3, true), y -> y.again(0) ? 1 : 0};
         x.keep(0);
@@ -603,6 +603,10 @@ final class BoundsOfActsTest extends Bounds {
         due("no more of what is KNOWN otherwise", x.say(0, 0, 2), 1);
         due("which can't be said again", x.say(0, 0, 1), -4);
         x = suited();
+        x.answer(2, 1);
+        due("no more, said as not so of what is KNOWN so", x.say(0, 2, 2), 1);
+        due("no more, said as so of what is KNOWN so", x.say(1, 2, 2), 1);
+        x = suited();
         x.answer(0, 1);
         due("what a NEVER rules out can be said", x.say(0, 1, 1), 3);
         x.answer(3, 2);
@@ -853,6 +857,25 @@ final class BoundsOfActsTest extends Bounds {
         due("undone", made(x).equals(kept[0]), true);
         x.undo();
         due("undone", made(x).equals(kept[1]), true);
+        // Another COUNT of the same number, in between.
+        x = suited();
+        x.days(7);
+        x.add(0, 9, 8);
+        x.keep(0);
+        x.undo();
+        x.days(3);
+        x.add(1, 5, 6);
+        int[][] is = {{5, 6, 10, 10, 16, 1, 0, 0, 0, 3, 1}, {9, 8, 7, 7, 15, 1, 0, 0, 0, 3, 0}};
+        for (int time = 0; time < 3; time++) {
+            for (int what = 0; what < 11; what++) {
+                due("of(2, " + what + "), time " + time, x.of(2, what), is[time % 2][what]);
+            }
+            if (time == 0) {
+                x.again(0);
+            } else {
+                x.undo();
+            }
+        }
     }
 
     @Sentence(of = "Promise 20", says = "false: no such place, nothing is kept there.")

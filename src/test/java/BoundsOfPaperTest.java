@@ -420,6 +420,20 @@ final class BoundsOfPaperTest extends Bounds {
             x.again(0);
         }
         due("of four alike, one", x.proofs(0, true), 1);
+        // As many COUNTS, ELEMENTS and PLEAS as there can be, each needing and barred by its own.
+        for (int k = 0; k < 5; k++) {
+            x = Check.suited("fact a;fact b;fact c;fact d;fact e;fact f;fact g;" + count("p", "a needs b needs c needs d")
+                    + count("q", "b needs c needs d needs e") + count("r", "c needs d needs e needs f")
+                    + count("s", "d needs e needs f needs g") + count("t", "e needs f needs g needs a")
+                    + "plea p e;plea q f;plea r g;plea s a;plea t b;plea t c;");
+            int needs = (15 << k | 15 << k >> 7) & 127;
+            int bars = k < 4 ? 1 << (k + 4) % 7 : 6;
+            due("ELEMENTS of " + k, x.of(k, 5), 4);
+            due("one way to win " + k, x.proofs(k, true), 1);
+            due("FACTS of that", x.proof(k, true, 0, 0), needs | bars);
+            due("so are what it needs", x.proof(k, true, 0, 1), needs);
+            due("ways to lose", x.proofs(k, false), k < 4 ? 5 : 6);
+        }
     }
 
     @Sentence(of = "Terms 2", says = "INJURY: COUNTS told the same, or one of which is made like the other, have one "
@@ -954,6 +968,9 @@ final class BoundsOfPaperTest extends Bounds {
         lacks("two", one("b&c|a&b&c", ""), 0, 2, 6, 6);
         lacks("all", one("a&b&c&!d", "says k b;"), 0, 2, 5, 5);
         lacks("all eight", Check.suited(EIGHT + count("k", "!a&b&!c&d&!e&f&!g&h")), 0, 8, 255, 0xAA);
+        // One WORLD alone of all is in the way: the first, and the last.
+        lacks("the first WORLD", Check.suited(EIGHT + count("k", "a|b|c|d|e|f|g|h")), 0, 1, 1, 1);
+        lacks("the last WORLD", Check.suited(EIGHT + count("k", "!a|!b|!c|!d|!e|!f|!g|!h")), 0, 1, 1, 0);
     }
 
     @Sentence(of = "Promise 24", says = "of FACTS that it does not say and that are not KNOWN the other way")
@@ -995,6 +1012,21 @@ final class BoundsOfPaperTest extends Bounds {
         lacks("half of four", x, 2, 2, 12, 0);
         x.say(0, 2, 2);
         lacks("half of what it would say can't be", x, 2, -2, -2, -2);
+        // The early one's own BACK is too late.
+        x = Check.suited(FOUR + count("k", "a") + "limit 4;");
+        x.days(5);
+        x.add(0, 1, 0);
+        x.say(1, 1, 1);
+        x.days(5);
+        x.add(0, 1, 0);
+        lacks("BACK 5 of 4", x, 2, -2, -2, -2);
+        x.say(0, 1, 1);
+        lacks("BACK 0 by that one", x, 2, 2, 3, 1);
+        // Six PLEAS, each of which could be SURE.
+        lacks("none of six PLEAS", one("b|c", "plea k d;plea k a;plea k b;plea k !c&b;plea k d&c;plea k a;"), 0, 1, 4, 4);
+        lacks("not the first", one("b|c|d", "plea k b;plea k a;plea k !c;"), 0, 1, 4, 4);
+        lacks("not the second", one("b|c|d", "plea k a;plea k b;plea k !c;"), 0, 1, 4, 4);
+        lacks("not the sixth", one("b|c|d", "plea k a;plea k !c;plea k a;plea k a;plea k a;plea k b;"), 0, 1, 4, 4);
     }
 
     @Sentence(of = "Promise 24", says = "of as many the least FACTS, then the least of these")

@@ -60,6 +60,10 @@ final class BoundsOfTextsTest extends Bounds {
         x = Check.suited("fact a;");
         due("479 tokens", Check.ask(x, "a&".repeat(239) + "a"), 2);
         due("478 tokens", Check.ask(x, "a|".repeat(238) + "!a"), 1);
+        // A SUIT as long as it can be, and then a question as long as it can be.
+        x = check.right(2, "fact a;count c worth 1 arose 1 needs " + "a&".repeat(220) + "!a;");
+        due("a question as long as it can be", Check.ask(x, "a|".repeat(238) + "!a"), 1);
+        due("the ELEMENT is as it was", x.element(0, 0, 2), 0);
         x = Check.suited("fact a;");
         check.questionFault(x, 1, "a&".repeat(239) + "a&^");
         check.questionFault(x, 1, "a|".repeat(238) + "a ^a");
@@ -116,11 +120,17 @@ final class BoundsOfTextsTest extends Bounds {
         check.fault(1, "fact ^A;");
         check.fault(1, "fact ^Z;");
         check.fault(1, "fact a^B;");
-        StruckCounts x = Check.suited("fact zzzzzz;fact azzzzz;fact zzzzza;");
-        due("words are told apart by each letter, the first", Check.ask(x, "azzzzz&!zzzzzz"), 2);
-        check.questionFault(x, 3, "zzzzzz|^zzzzz");
-        check.questionFault(x, 3, "zzzzzz|^zzzzzb");
-        check.questionFault(x, 3, "zzzzzz|^bzzzzz");
+        // Told apart by each letter, and by how many they are.
+        for (String word : new String[] {"aaaaaa", "mnmnmn", "zzzzzz"}) {
+            for (int i = 0; i < 6; i++) {
+                StruckCounts x = Check.suited("fact " + word + ";");
+                for (char c = 'a'; c <= 'z'; c++) {
+                    String other = word.substring(0, i) + c + word.substring(i + 1);
+                    due(other + ", where there is " + word, Check.ask(x, other), other.equals(word) ? 2 : NONE);
+                }
+                due("the first " + i + " letters alone", Check.ask(x, word.substring(0, i)), NONE);
+            }
+        }
     }
 
     @Sentence(of = "Terms 1", says = "NUMBERS (1 to 3 digits)")
@@ -457,6 +467,29 @@ final class BoundsOfTextsTest extends Bounds {
         check.fault(1, "fact a;never 5^;");
         check.fault(1, "fact a;never 1 of(a^;a);");
         check.fault(1, "limit 5 ^5;");
+        check.fault(1, "fact a;never 1 of^;");
+        check.fault(1, "fact a;never 1 of ^&a;");
+        check.fault(1, "fact a;never (1 of^);");
+        check.fault(1, "fact a;never !1 of^|a;");
+        // A line begins where another one has not ended.
+        check.fault(1, "fact ^limit 5;");
+        check.fault(1, "fact a ^limit 5;");
+        check.fault(1, "fact a 5 ^limit 5;");
+        check.fault(1, "fact a;never ^limit 5;");
+        check.fault(1, "fact a;never a ^limit 5;");
+        check.fault(1, "fact a;count ^limit 5;");
+        check.fault(1, "fact a;count c ^limit 5;");
+        check.fault(1, "fact a;count c worth ^limit 5;");
+        check.fault(1, "fact a;count c worth 1 ^limit 5;");
+        check.fault(1, "fact a;count c worth 1 arose ^limit 5;");
+        check.fault(1, "fact a;count c worth 1 arose 1 ^limit 5;");
+        check.fault(1, "fact a;count c worth 1 arose 1 needs ^limit 5;");
+        for (String line : new String[] {"plea", "plea c", "plea c a", "says", "says c", "says c !", "says c a",
+            "same", "same c", "same c d"}) {
+            check.fault(1, "fact a;" + count("c", "a") + count("d", "a") + line + " ^limit 5;");
+        }
+        check.fault(1, "limit ^fact a;");
+        check.fault(1, "limit 5 ^fact a;");
     }
 
     @Sentence(of = "Terms 1", says = "2 a NUMBER that is not as told.")
@@ -617,6 +650,11 @@ final class BoundsOfTextsTest extends Bounds {
         check.right(2, "fact a;never !(!(a))&!(!(!a|!a));");
         check.right(2, "fact a;never 1 of(!!!!a,!!!!a,(((a))));");
         check.fault(4, "fact a;never 1 of(!!!!a,!!!!^!a);");
+        // In each kind of line, and each EXPR of its own.
+        check.right(3, ONE_COUNT + "&!!!!!a needs !!!!!a needs (((((a)))));plea c !!!!!a;");
+        check.fault(4, "fact a;count c worth 1 arose 1 needs !!!!!^!a;");
+        check.fault(4, ONE_COUNT + " needs (((((^(a))))));");
+        check.fault(4, ONE_COUNT + ";plea c !!!!!^(a);");
     }
 
     @Sentence(of = "Terms 1", says = "5 no WORLD is left of the FACTS told so far")
@@ -673,6 +711,32 @@ final class BoundsOfTextsTest extends Bounds {
         due("undo()", x.undo(), NONE);
         due("ASKED, 0", x.asked(0), NONE);
         due("ASKED, 1", x.asked(1), NONE);
+        // Nothing is left of the SUITS ahead, however often there is another.
+        x = new StruckCounts();
+        String most = EIGHT + count("p", "a") + count("q", "a") + count("r", "a") + count("s", "b")
+                + count("t", "a") + "never a&b;never b;never b;never b;never b;never b;plea p b;plea q b;plea q b;"
+                + "plea r b;plea s b;plea t b;same p t;says t c;";
+        for (int time = 0; time < 4; time++) {
+            due("suit(), time " + time, Check.suit(x, time == 3 ? suit : most), time == 3 ? 4 : 27);
+            due("fault(0)", x.fault(0), 0);
+            if (time < 3) {
+                x.add(4, 1, 1);
+                due("COUNTS", x.count(2), 6);
+                due("the one more says nothing", x.of(5, 7), 0);
+                x.say(5, 3, 1);
+                x.say(5, 4, 1);
+                x.answer(7, 1);
+                x.answer(6, 2);
+                x.answer(5, 3);
+                x.strike(0);
+                x.close();
+                x.find(0, true);
+            }
+        }
+        due("as of a new object with that SUIT", picture(x).equals(fresh), true);
+        due("a COUNT more", x.add(0, 1, 1), 1);
+        due("says nothing", x.of(1, 7), 0);
+        due("nor as so", x.of(1, 8), 0);
         // Even the empty one.
         x.days(1);
         x.keep(0);
@@ -809,13 +873,13 @@ final class BoundsOfTextsTest extends Bounds {
                 + "same c d;same d c;"};
         for (String text : faulty) {
             StruckCounts x = busy();
-            Check.suit(x, "A");
             String ahead = picture(x) + x.element(0, 1, 2) + x.bar(0, 0, 1) + x.worlds(0) + x.award(1);
-            due("suit() of " + text, Check.suit(x, text), NONE);
-            due("a FAULT", x.fault(0) > 0, true);
-            Check.suit(x, "A");
-            due("all stays", (picture(x) + x.element(0, 1, 2) + x.bar(0, 0, 1) + x.worlds(0) + x.award(1))
-                    .equals(ahead), true);
+            for (int time = 0; time < 2; time++) {
+                due("suit() of " + text, Check.suit(x, text), NONE);
+                due("a FAULT", x.fault(0) > 0, true);
+                due("all stays", (picture(x) + x.element(0, 1, 2) + x.bar(0, 0, 1) + x.worlds(0) + x.award(1))
+                        .equals(ahead), true);
+            }
             due("LINES", x.count(0), 9);
             due("ASKED", x.asked(1) > 0, true);
             due("undo()", x.undo(), 2);

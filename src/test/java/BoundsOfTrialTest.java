@@ -67,6 +67,9 @@ final class BoundsOfTrialTest extends Bounds {
         due("by a PLEA alone", Check.suited(ABC + count("k", "a|!a") + "plea k c;").issues(0), 4);
         due("all eight", needing(EIGHT, "a&!b&c&!d&e&!f&g&!h").issues(0), 255);
         due("the last alone", needing(EIGHT, "h").issues(0), 128);
+        due("WON in the first WORLD alone", needing(ABC, "!a&!b&!c").issues(0), 7);
+        due("WON in the last WORLD alone", needing(ABC, "a&b&c").issues(0), 7);
+        due("LOST in the first WORLD alone", needing(ABC, "a|b|c").issues(0), 7);
         StruckCounts x = needing(ABC, "a&b|c");
         x.answer(2, 1);
         due("c KNOWN so: none", x.issues(0), 0);
@@ -393,9 +396,14 @@ final class BoundsOfTrialTest extends Bounds {
         x = needing("fact a;fact b;never a&b;", "a&b");
         proofs(x, true, new int[0][]);
         proofs(x, false, new int[][] {{0, 0}});
-        x = needing("fact a;fact b;never a;", "b");
-        proofs(x, true, new int[][] {{2, 2}});
-        proofs(x, false, new int[][] {{2, 0}});
+        for (String never : new String[] {"a", "!a"}) {
+            x = needing("fact a;fact b;never " + never + ";", "b");
+            proofs(x, true, new int[][] {{2, 2}});
+            proofs(x, false, new int[][] {{2, 0}});
+            x = needing("fact a;fact b;never " + never + ";", "!b");
+            proofs(x, true, new int[][] {{2, 0}});
+            proofs(x, false, new int[][] {{2, 2}});
+        }
     }
 
     @Sentence(of = "Promise 34", says = "and it is WON (won true), or LOST, in each that does, but no longer so if any one "
@@ -466,6 +474,18 @@ final class BoundsOfTrialTest extends Bounds {
             due("proof(0, true, 0, " + what + ")", suited().proof(0, true, 0, what), NONE);
         }
         due("of a COUNT without one", needing(ABC, "a&!a").proof(0, true, 0, 0), NONE);
+    }
+
+    @Sentence(of = "Promise 35", says = "what 0: its FACTS, 1: of these the ones as so.")
+    void promise35WithoutCountingThemFirst() {
+        due("its FACTS", suited().proof(0, true, 1, 0), 5);
+        due("the ones as so", suited().proof(1, true, 0, 1), 4);
+        StruckCounts x = suited();
+        due("LOST, 0", x.proof(0, false, 1, 0), 6);
+        due("of another COUNT", x.proof(1, true, 0, 0), 5);
+        x.answer(1, 1);
+        due("of the first again, b KNOWN", x.proof(0, true, 0, 0), 1);
+        due("as so", x.proof(0, true, 0, 1), 1);
     }
 
     // ---- promises 36 and 37
@@ -717,6 +737,14 @@ final class BoundsOfTrialTest extends Bounds {
         check.questionFault(x, 3, "^k");
         due("the SUIT stays", x.count(0), 3);
         due("no act", x.count(7), 0);
+        // Again and again, with and without a FAULT: it takes no room of the next.
+        x = Check.suited("fact a;fact b;" + count("k", "a"));
+        due("long", Check.ask(x, "a|".repeat(170) + "!a"), 1);
+        due("long, with a FAULT", Check.ask(x, "a|".repeat(170) + "!c"), NONE);
+        due("long", Check.ask(x, "b&".repeat(170) + "!b"), 0);
+        due("long", Check.ask(x, "b|".repeat(170) + "a"), 2);
+        due("long", Check.ask(x, "b|".repeat(150) + "!b"), 1);
+        due("the ELEMENT stays", x.element(0, 0, 2), 2);
     }
 
     @Sentence(of = "Promise 40", says = "NONE with a FAULT (1 to 4 as of a SUIT)")
