@@ -59,11 +59,19 @@ final class BoundsOfTextsTest extends Bounds {
         check.right(2, "fact a;never !a&" + "a|".repeat(231) + "a;");
         x = Check.suited("fact a;");
         due("479 tokens", Check.ask(x, "a&".repeat(239) + "a"), 2);
+        due("480 tokens", Check.ask(x, "!a" + "&a".repeat(239)), 0);
         due("478 tokens", Check.ask(x, "a|".repeat(238) + "!a"), 1);
         // A SUIT as long as it can be, and then a question as long as it can be.
         x = check.right(2, "fact a;count c worth 1 arose 1 needs " + "a&".repeat(220) + "!a;");
         due("a question as long as it can be", Check.ask(x, "a|".repeat(238) + "!a"), 1);
         due("the ELEMENT is as it was", x.element(0, 0, 2), 0);
+        // And again, behind others that were as long and had a FAULT.
+        x = new StruckCounts();
+        String needs = "fact a;count c worth 1 arose 1 needs " + "a&".repeat(218);
+        due("with a FAULT", Check.suit(x, needs + "b;"), NONE);
+        due("with a FAULT again", Check.suit(x, needs + "a"), NONE);
+        due("without one", Check.suit(x, needs + "!a;"), 2);
+        due("its ELEMENT", x.element(0, 0, 2), 0);
         x = Check.suited("fact a;");
         check.questionFault(x, 1, "a&".repeat(239) + "a&^");
         check.questionFault(x, 1, "a|".repeat(238) + "a ^a");
@@ -723,11 +731,13 @@ final class BoundsOfTextsTest extends Bounds {
                 x.add(4, 1, 1);
                 due("COUNTS", x.count(2), 6);
                 due("the one more says nothing", x.of(5, 7), 0);
+                due("nor as so", x.of(5, 8), 0);
                 x.say(5, 3, 1);
                 x.say(5, 4, 1);
-                x.answer(7, 1);
-                x.answer(6, 2);
-                x.answer(5, 3);
+                due("not OPEN", x.answer(7, 1), 1);
+                due("not OPEN", x.answer(6, 2), 2);
+                due("not OPEN", x.answer(5, 3), 3);
+                due("the DAY", x.days(6), 6);
                 x.strike(0);
                 x.close();
                 x.find(0, true);
