@@ -24,6 +24,7 @@ public final class StruckCounts {
     private static final int LAST_DAY = 9999;
     private static final int SETS = 256;
     private static final int PARTS = 4;
+    private static final int GREATEST = 2147483647;
 
     private static final int END = 0;
     private static final int NO_TOKEN = 1;
@@ -380,10 +381,10 @@ public final class StruckCounts {
             return NONE;
         }
         long worth = at(state.worth, k);
-        for (int i = 0; i < n && worth <= Integer.MAX_VALUE; i++) {
+        for (int i = 0; i < n && worth <= GREATEST; i++) {
             worth += worth / 10;
         }
-        return worth > Integer.MAX_VALUE ? -2 : (int) worth;
+        return worth > GREATEST ? -2 : (int) worth;
     }
 
     // ---- what is left for trial
@@ -438,7 +439,7 @@ public final class StruckCounts {
             return NONE;
         }
         survey();
-        int least = Integer.MAX_VALUE;
+        int least = GREATEST;
         int greatest = NONE;
         int world = 0;
         for (int i = 0; i < tally.size; i++) {
@@ -491,7 +492,7 @@ public final class StruckCounts {
             return NONE;
         }
         growTrial(k);
-        return seekProofs(won, Integer.MAX_VALUE);
+        return seekProofs(won, GREATEST);
     }
 
     public int proof(int k, boolean won, int i, int what) {

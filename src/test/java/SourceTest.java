@@ -46,6 +46,7 @@ final class SourceTest {
         }
         test.check.due("classes", StruckCounts.class.getDeclaredClasses().length <= 12 ? 1 : 0, 1);
         test.leftOut();
+        test.library();
         test.methods();
         test.noMadeRows();
         test.check.close("SourceTest");
@@ -110,6 +111,16 @@ final class SourceTest {
         for (String what : LEFT_OUT) {
             Matcher m = Pattern.compile(what).matcher(code);
             check.due("the language leaves out " + what, m.find() ? 1 : 0, 0);
+        }
+    }
+
+    /** Of Integer, Long and Math the language lists functions alone, none of their constants. */
+    private void library() {
+        Matcher m = Pattern.compile("\\b([A-Z]\\w*[a-z]\\w*)\\.(\\w+)(\\()?").matcher(code);
+        while (m.find()) {
+            boolean listed = m.group(1).matches("Integer|Long|Math");
+            boolean own = m.group(1).matches("Law|Worlds|Tree|Seer");
+            check.due("the library has no " + m.group(), own || listed && m.group(3) != null ? 1 : 0, 1);
         }
     }
 
